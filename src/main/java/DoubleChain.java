@@ -495,7 +495,6 @@ public final class DoubleChain {
             days = 0;
             // Whoever is hired later stands behind those told: he stays in never.
             for (int p = 0; p < PEOPLE; p++) {
-                put(marks, p, 0);
                 put(inWeathers, p, 0);
                 put(inHours, p, 0);
                 put(fears, p, FEAR_BOUND);

@@ -10,6 +10,7 @@ public final class CourtTest {
         faults();
         faultStays();
         courtResets();
+        courtForgets();
         told();
         person();
         dayTold();
@@ -87,6 +88,7 @@ public final class CourtTest {
     private static void faults() {
         T.promise(4);
         cannotStand();
+        cannotStandBehindLonger();
         wrongNumbers();
         tooMany();
     }
@@ -119,6 +121,26 @@ public final class CourtTest {
         dueCourt("k5\t;", -11, 2);
         dueCourt("k:;", -11, 1);
         dueCourt("k/;", -11, 1);
+    }
+
+    /** Letters of an earlier, longer text stand behind none. */
+    private static void cannotStandBehindLonger() {
+        DoubleChain x = new DoubleChain();
+        dueNext(x, "k555;p0 0 0 0;       ;", -11, 21);
+        dueNext(x, "k55", -11, 3);
+        dueNext(x, "k555;x", -11, 5);
+        dueNext(x, "k555", -11, 4);
+        dueNext(x, "k5; ", 0, -1);
+        dueNext(x, "k5", -11, 2);
+        dueNext(x, "k    ;", -11, 5);
+        dueNext(x, "k", -11, 1);
+        dueNext(x, "", 0, -1);
+    }
+
+    private static void dueNext(DoubleChain x, String text, int answer, int place) {
+        Check.feed(x, text);
+        T.due("court() of \"" + text + "\" next", x.court(), answer);
+        T.due("fault() of \"" + text + "\" next", x.fault(), place);
     }
 
     private static void wrongNumbers() {
@@ -203,6 +225,22 @@ public final class CourtTest {
         T.due("court() of nothing", x.court(), 0);
         dueAll(x, new int[] {0, 0, 0, 0, 0, 0, 0, -1, 0, 0, 0, 0});
         T.due("attempt() behind it", x.attempt(), Check.NOT);
+    }
+
+    /** Nothing of an earlier text, or of one with a fault, is left for those who are hired. */
+    private static void courtForgets() {
+        T.promise(3);
+        DoubleChain x = Check.of("k5;p1 7 15 0;p1 7 15 0;p1 7 15 0;d2 3 9;");
+        Check.feed(x, "k5;p1 7 15 0;p1 7 15 0;p1 7 15 0;d2 3 9;x");
+        x.court();
+        for (int i = 0; i < 2; i++) {
+            Check.feed(x, "k5;p4 7 15 0;");
+            T.due("court()", x.court(), 1);
+            T.due("hire()", x.hire(), 1);
+            duePerson(x, 1, new int[] {4, 0, 0, 9, 1, 2, 1});
+            T.due("dayTold(0, 0)", x.dayTold(0, 0), Check.UNKNOWN);
+            T.due("safe(1, 0)", x.safe(1, 0), 1000000000);
+        }
     }
 
     private static void spoil(DoubleChain x) {

@@ -105,6 +105,11 @@ public final class DoneTest {
         dueMarks(x, 0, 0, 8 | 64 | 128);
         x.day(1);
         dueMarks(x, 0, 0, 64 | 128);
+        x = Check.of("k1;p1 0 0 0;p2 0 0 0;p4 0 0 0;p8 0 0 0;p16 0 0 0;p32 0 0 0;p64 0 0 0;p128 0 0 0;");
+        x.day(1);
+        dueMarks(x, 1, 3, 6, 12, 24, 48, 96, 192);
+        x.day(1);
+        dueMarks(x, 1, 1, 7, 14, 28, 56, 112, 224);
         // A dead one is no longer ahead, and copies nothing.
         x = Check.of("k1;p1 0 0 0;p2 7 0 0;p4 7 0 0;p64 7 0 0;");
         x.attempt();
@@ -186,6 +191,9 @@ public final class DoneTest {
         T.due("told(5)", x.told(5), 4 + 32 + 64 + 128);
         T.due("hire(), a ninth", x.hire(), Check.FULL);
         T.due("told(11)", x.told(11), 11);
+        x = Check.of("k1;p77 7 15 0;");
+        T.due("hire(), behind the king alone", x.hire(), 1);
+        T.due("person(1, 0)", x.person(1, 0), 77);
         x = Check.of("k1;" + "p0 0 0 0;".repeat(8));
         for (int p = 0; p < 8; p++) {
             T.due("attempt()", x.attempt(), p);

@@ -56,7 +56,10 @@ public final class DrawsTest {
 
     private static void goBack() {
         T.promise(32);
-        DoubleChain x = Check.of("k1;p0 0 0 0;");
+        DoubleChain x = new DoubleChain();
+        T.due("goBack(0), nothing was kept", x.goBack(0), Check.NOT);
+        T.due("goBack(1), nothing was kept", x.goBack(1), Check.NOT);
+        x = Check.of("k1;p0 0 0 0;");
         T.due("goBack(-1)", x.goBack(-1), Check.UNKNOWN);
         T.due("goBack(2)", x.goBack(2), Check.UNKNOWN);
         x.day(1);

@@ -81,6 +81,7 @@ public final class TriedTest {
         dueSent(x, 4, -1, -1, -1, -1);
         T.due("send(2, 2)", x.send(2, 2), -1);
         T.due("send(2, -1)", x.send(2, -1), -1);
+        T.due("send(1, 1): another call's day", x.send(1, 1), -1);
         T.due("send(2, 2147483647)", x.send(2, Integer.MAX_VALUE), -1);
         T.due("send(2, -2147483648)", x.send(2, Integer.MIN_VALUE), -1);
         x.day(2);
@@ -89,6 +90,7 @@ public final class TriedTest {
         dueSent(x, 1, 1);
         x = Check.of("k1;" + "p0 0 0 0;".repeat(6));
         dueSent(x, 6, 0, 1, 2, 3, 4, 5);
+        dueSent(x, 3, 0, 1, 2, -1, -1, -1);
         x.attempt();
         dueSent(x, 5, 1, 2, 3, 4, 5);
         dueSent(x, 6, -1, -1, -1, -1, -1, -1);
@@ -200,6 +202,7 @@ public final class TriedTest {
         dueTold("k1;p9 0 0 0;p9 0 0 0;", -1, -1);
         dueTold("k1;p9 0 0 0;p8 0 0 0;p8 0 0 0;", 1, -1);
         dueTold("k1;p0 0 0 0;p6 0 0 0;p6 0 0 0;", 2, -1);
+        dueTold("k1;p0 0 0 0;p5 0 0 0;p6 0 0 0;", 4, 3);
         dueTold("k1;p0 0 0 0;p1 0 0 0;p6 0 0 0;p7 0 0 0;", 3, 3);
         dueTold("k1;p0 0 0 0;p128 0 0 0;p65 0 0 0;", 129, 129);
         dueTold("k1;p3 0 0 0;p131 0 0 0;p128 0 0 0;", 128, 129);
