@@ -21,6 +21,13 @@ final class Check {
         }
     }
 
+    void same(String what, String got, String want) {
+        if (!got.equals(want)) {
+            wrong++;
+            System.out.println("promise " + promise + ": " + what + " is\n" + got + "due is\n" + want);
+        }
+    }
+
     void end() {
         if (wrong != 0) {
             System.exit(1);
@@ -40,5 +47,24 @@ final class Check {
             throw new IllegalStateException("the text has a fault at " + x.fault() + ": " + text);
         }
         return x;
+    }
+
+    /** So many clauses of like people. */
+    static String people(int many, String one) {
+        return ("p" + one + ";").repeat(many);
+    }
+
+    /** What a draw makes of a seed. */
+    static long next(long seed) {
+        return (seed * 1103515245L + 12345L) % 2147483648L;
+    }
+
+    /** The least seed whose draw of 100 is a number. */
+    static int seedThatDraws(int number) {
+        int seed = 0;
+        while (next(seed) / 65536 % 100 != number) {
+            seed++;
+        }
+        return seed;
     }
 }

@@ -3,7 +3,6 @@ public final class CourtTest {
     private static final Check T = new Check();
 
     public static void main(String[] args) {
-        constants();
         newObject();
         feed();
         courts();
@@ -15,14 +14,6 @@ public final class CourtTest {
         person();
         dayTold();
         T.end();
-    }
-
-    private static void constants() {
-        T.due("NONE", DoubleChain.NONE, -1);
-        T.due("UNKNOWN", DoubleChain.UNKNOWN, -1000000001);
-        T.due("OUTSIDE", DoubleChain.OUTSIDE, -1000000002);
-        T.due("NOT", DoubleChain.NOT, -1000000003);
-        T.due("FULL", DoubleChain.FULL, -1000000004);
     }
 
     private static void newObject() {

@@ -242,19 +242,11 @@ public final class DoneTest {
     /** An attempt comes below the danger, not at it. */
     private static void drawnAsDanger() {
         DoubleChain x = Check.of("k8;p0 0 0 9;p0 0 0 9;d0 0 5;");
-        x.seed(firstSeedThatDraws(4));
+        x.seed(Check.seedThatDraws(4));
         T.due("drift(1), danger 5, 4 drawn", x.drift(1), 1);
         x.undo();
-        x.seed(firstSeedThatDraws(5));
+        x.seed(Check.seedThatDraws(5));
         T.due("drift(1), danger 5, 5 drawn", x.drift(1), 2);
-    }
-
-    private static int firstSeedThatDraws(int number) {
-        long seed = 0;
-        while ((seed * 1103515245L + 12345L) % 2147483648L / 65536 % 100 != number) {
-            seed++;
-        }
-        return (int) seed;
     }
 
     private static void undo() {

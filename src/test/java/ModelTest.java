@@ -1,9 +1,14 @@
 import java.util.Random;
 
-/** Runs of calls by chance, each the same every time: the program and Model answer alike. */
+/** Runs of calls and texts by chance, each the same every time: the program and Model answer alike. */
 public final class ModelTest {
     private static final int RUNS = 1500;
-    private static final int CALLS = 512;
+    private static final int TEXTS = 20000;
+    // What an object answers behind its 512th call is free; a turn makes 20 calls at most.
+    private static final int CALLS = 512 - 20;
+    private static final int SIXTIES = 149;
+    private static final String[] PIECES = {"k", "p", "d", ";", " ", "  ", "0", "1", "2", "3", "9", "10", "15", "16", "255", "256",
+        "999", "1000", "0001", "x", "k5;", "p1 2 3 4;", "d2 3 9;", "p255 7 15 9", "d0 0 0", "p1 2 3 4;p1 2 3 4;p1 2 3 4;"};
     private static final int[] EDGES = {-1, Integer.MIN_VALUE, Integer.MAX_VALUE, -2, 1000, 256, 8, 10, 61, 101};
 
     private final Check check = new Check();
@@ -17,6 +22,9 @@ public final class ModelTest {
         for (int run = 0; run < RUNS; run++) {
             test.run(run);
         }
+        for (int i = 0; i < TEXTS; i++) {
+            test.text();
+        }
         test.check.end();
     }
 
@@ -28,9 +36,40 @@ public final class ModelTest {
         if (number % 10 != 0) {
             feedCourt();
         }
+        if (number % 15 == 1) {
+            passManyDays();
+        }
         while (calls < CALLS) {
             call(number % 3 == 0);
         }
+    }
+
+    /** To where DAYS come near 9000, and above. */
+    private void passManyDays() {
+        for (int i = 0; i < SIXTIES; i++) {
+            if (random.nextInt(50) == 0) {
+                due("drift(60)", x.drift(60), m.drift(60));
+            } else {
+                due("day(60)", x.day(60), m.day(60));
+            }
+        }
+    }
+
+    private void text() {
+        x = new DoubleChain();
+        m = new Model();
+        calls = 0;
+        StringBuilder s = new StringBuilder(random.nextInt(4) == 0 ? "" : "k7;");
+        int pieces = random.nextInt(random.nextBoolean() ? 6 : 40);
+        for (int i = 0; i < pieces; i++) {
+            s.append(random.nextInt(3) == 0 ? PIECES[random.nextInt(PIECES.length)] : PIECES[20 + random.nextInt(6)]);
+        }
+        for (int i = 0; i < s.length() && i < 250; i++) {
+            due("feed", x.feed(s.charAt(i)), m.feed(s.charAt(i)));
+        }
+        due("court() of " + s, x.court(), m.court());
+        due("fault() of " + s, x.fault(), m.fault());
+        callCourt(7);
     }
 
     private void due(String call, int got, int want) {
