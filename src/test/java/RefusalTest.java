@@ -29,7 +29,6 @@ public final class RefusalTest {
         whereDaysAreAbove9000();
         whereAllIsWatchedAndWritten();
         courtWithAFault();
-        whatIsTriedChangesNothing();
         T.end();
     }
 
@@ -65,7 +64,7 @@ public final class RefusalTest {
     }
 
     /** Something of all there is: a dead one, one hired, one undone, watched, written, image 0 kept, a text begun. */
-    private static DoubleChain rich() {
+    static DoubleChain rich() {
         DoubleChain x = Check.of("k100;p13 6 0 3;p12 4 2 5;p29 2 1 9;p13 0 8 1;d1 0 2;d0 1 4;d2 3 6;d0 3 9;");
         x.seed(3);
         x.day(2);
@@ -77,10 +76,21 @@ public final class RefusalTest {
         x.hire();
         x.undo();
         x.watch(0, false);
-        x.watch(1, true);
-        x.write(2, x.person(2, 0));
+        x.watch(0, false);
+        x.write(2, 29);
         x.write(1, 255);
         Check.feed(x, "k7;p200 0 0 9;");
+        return x;
+    }
+
+    /** Something watched, written, kept, drawn ahead of the seed that is, and a text begun. */
+    private static DoubleChain furnished(DoubleChain x) {
+        x.watch(0, x.person(0, 6) == 1);
+        x.write(0, x.person(0, 0));
+        x.seed(1000);
+        x.keep(0);
+        x.seed(2000);
+        Check.feed(x, "k7;d2 3 9;");
         return x;
     }
 
@@ -101,7 +111,7 @@ public final class RefusalTest {
         }
         for (int what : new int[] {-1, 7, LEAST, MOST}) {
             outside(6, "person(0, " + what + ")", x -> x.person(0, what));
-            outside(6, "person(1, " + what + "), a dead one", x -> x.person(1, what));
+            outside(6, "person(2, " + what + "), a dead one", x -> x.person(2, what));
             outside(6, "person(4, " + what + ")", x -> x.person(4, what));
         }
         for (int d : new int[] {-1, 4, 10, LEAST, MOST}) {
@@ -155,7 +165,7 @@ public final class RefusalTest {
             unknown(22, "apart(0, " + p + ")", x -> x.apart(0, p));
             unknown(22, "apart(" + p + ", " + p + ")", x -> x.apart(p, p));
         }
-        for (int p : new int[] {0, 4}) {
+        for (int p : new int[] {0, 1, 3, 4}) {
             not(17, "diedAt(" + p + "), who lives", x -> x.diedAt(p));
         }
         for (int p : new int[] {-2, 5, 8, LEAST, MOST}) {
@@ -180,7 +190,7 @@ public final class RefusalTest {
         }
         for (int marks : new int[] {-1, 256, LEAST, MOST}) {
             outside(27, "write(0, " + marks + ")", x -> x.write(0, marks));
-            outside(27, "write(1, " + marks + "), of a dead one", x -> x.write(1, marks));
+            outside(27, "write(2, " + marks + "), of a dead one", x -> x.write(2, marks));
         }
     }
 
@@ -201,6 +211,10 @@ public final class RefusalTest {
     private static void withoutACourt() {
         for (boolean gone : new boolean[] {false, true}) {
             in(gone ? "behind an empty text" : "on a new object", gone ? RefusalTest::courtGone : RefusalTest::fresh);
+            not(32, "goBack(0)", x -> x.goBack(0));
+            not(32, "goBack(1)", x -> x.goBack(1));
+            in(state + ", where an image is kept", gone ? () -> furnished(courtGone()) : () -> furnished(fresh()));
+            not(32, "goBack(1)", x -> x.goBack(1));
             for (int n : new int[] {1, 60}) {
                 not(8, "day(" + n + ")", x -> x.day(n));
                 not(11, "drift(" + n + ")", x -> x.drift(n));
@@ -213,8 +227,6 @@ public final class RefusalTest {
             not(10, "hire()", DoubleChain::hire);
             not(12, "undo()", DoubleChain::undo);
             not(21, "shownAll()", DoubleChain::shownAll);
-            not(32, "goBack(0)", x -> x.goBack(0));
-            not(32, "goBack(1)", x -> x.goBack(1));
             unknown(6, "person(0, 0)", x -> x.person(0, 0));
             unknown(7, "dayTold(0, 0)", x -> x.dayTold(0, 0));
             unknown(17, "diedAt(0)", x -> x.diedAt(0));
@@ -228,7 +240,6 @@ public final class RefusalTest {
     private static DoubleChain fresh() {
         DoubleChain x = new DoubleChain();
         x.seed(99);
-        Check.feed(x, "k7;d2 3 9;");
         return x;
     }
 
@@ -239,7 +250,6 @@ public final class RefusalTest {
         x.day(2);
         x.write(0, 200);
         x.court();
-        Check.feed(x, "k7;d2 3 9;");
         return x;
     }
 
@@ -263,9 +273,7 @@ public final class RefusalTest {
     }
 
     private static DoubleChain empty() {
-        DoubleChain x = Check.of("k5;d0 0 9;");
-        x.watch(0, true);
-        return x;
+        return furnished(Check.of("k5;d0 0 9;"));
     }
 
     /** NOT stands ahead of FULL. */
@@ -277,7 +285,7 @@ public final class RefusalTest {
     }
 
     private static DoubleChain dead(int many) {
-        DoubleChain x = Check.of("k5;" + "p9 0 0 9;".repeat(many) + "d0 0 9;");
+        DoubleChain x = furnished(Check.of("k5;" + Check.people(many, "9 0 0 9") + "d0 0 9;"));
         for (int i = 0; i < many; i++) {
             x.attempt();
         }
@@ -290,6 +298,9 @@ public final class RefusalTest {
         not(32, "goBack(0)", x -> x.goBack(0));
         not(32, "goBack(1)", x -> x.goBack(1));
         unknown(32, "goBack(2)", x -> x.goBack(2));
+        in("where all is undone, and an image is kept", () -> furnished(undone()));
+        not(12, "undo()", DoubleChain::undo);
+        not(32, "goBack(1)", x -> x.goBack(1));
         in("where what could be undone is gone", RefusalTest::keptOne);
         not(12, "undo()", DoubleChain::undo);
         not(32, "goBack(0)", x -> x.goBack(0));
@@ -323,9 +334,9 @@ public final class RefusalTest {
     }
 
     private static DoubleChain textFull() {
-        DoubleChain x = Check.of("k5;p1 0 0 9;");
+        DoubleChain x = furnished(Check.of("k5;p1 0 0 9;d0 0 9;"));
         x.day(1);
-        Check.feed(x, "k8;" + " ".repeat(230) + "d1 1 1;");
+        Check.feed(x, " ".repeat(223) + "d1 1 1;");
         return x;
     }
 
@@ -337,7 +348,7 @@ public final class RefusalTest {
     }
 
     private static DoubleChain eight(int died) {
-        DoubleChain x = Check.of("k5;" + "p9 0 0 9;".repeat(7) + "d0 0 9;");
+        DoubleChain x = furnished(Check.of("k5;" + Check.people(7, "9 0 0 9") + "d0 0 9;"));
         x.hire();
         for (int i = 0; i < died; i++) {
             x.attempt();
@@ -362,11 +373,10 @@ public final class RefusalTest {
 
     private static DoubleChain behind(int days) {
         DoubleChain x = Check.of("k5;p1 0 0 8;p2 0 0 9;d0 0 1;");
-        x.seed(5);
         for (int i = 0; i < 150; i++) {
             x.day(60);
         }
-        x.keep(0);
+        furnished(x);
         x.day(days - 9000);
         return x;
     }
@@ -394,11 +404,11 @@ public final class RefusalTest {
     }
 
     private static DoubleChain allWatched() {
-        DoubleChain x = Check.of("k5;p7 0 0 8;p2 1 0 9;p2 0 0 8;d0 0 9;d1 0 1;");
-        for (int i = 0; i < 8; i++) {
+        DoubleChain x = furnished(Check.of("k5;p7 0 0 8;p2 1 0 9;p2 0 0 8;d0 0 9;d1 0 1;"));
+        for (int i = 1; i < 8; i++) {
             x.watch(i % 2, i % 2 == 1);
         }
-        for (int i = 0; i < 15; i++) {
+        for (int i = 1; i < 15; i++) {
             x.write(0, 7);
         }
         x.day(1);
@@ -412,52 +422,28 @@ public final class RefusalTest {
         T.promise(3);
         String[] texts = {"p", "k0;", "k6;k", "k6;p255 7 15 9;d2 3 9;x", "k6;p255 7 15 10;", "k6" + " ".repeat(90)};
         int[] answers = {-11, -12, -13, -11, -12, -11};
-        String due = View.behindTheText(bare());
-        for (int i = 0; i < texts.length; i++) {
-            DoubleChain x = bare();
-            Check.feed(x, texts[i]);
-            T.due("court() of " + texts[i], x.court(), answers[i]);
-            T.due("told(3) behind " + texts[i], x.told(3), 0);
-            T.same("what court() of " + texts[i] + " leaves", View.behindTheText(x), due);
+        for (int kept = 0; kept <= 1; kept++) {
+            String due = View.behindTheText(bare(kept));
+            for (int i = 0; i < texts.length; i++) {
+                DoubleChain x = bare(kept);
+                Check.feed(x, texts[i]);
+                T.due("court() of " + texts[i], x.court(), answers[i]);
+                T.due("told(3) behind " + texts[i], x.told(3), 0);
+                T.same("what court() of " + texts[i] + " leaves", View.behindTheText(x), due);
+            }
         }
     }
 
-    /** The rich state without a text begun. */
-    private static DoubleChain bare() {
+    /** Much as the rich state, without a text begun. */
+    private static DoubleChain bare(int kept) {
         DoubleChain x = Check.of("k100;p13 6 0 3;p12 4 2 5;p29 2 1 9;d1 0 2;d0 1 4;d2 3 6;");
         x.seed(8);
         x.attempt();
-        x.keep(1);
+        x.keep(kept);
         x.day(2);
         x.hire();
         x.watch(2, true);
         x.write(3, 29);
         return x;
-    }
-
-    /** "TRIED from now; nothing changes by it." */
-    private static void whatIsTriedChangesNothing() {
-        in("in a rich state", RefusalTest::rich);
-        tried(13, "would", x -> x.would(0, 0, 0));
-        tried(14, "firstNobody", x -> x.firstNobody(60));
-        tried(15, "send", x -> x.send(2, 1));
-        tried(16, "byMarks", x -> x.byMarks(1, 2));
-        tried(17, "diedAt", x -> x.diedAt(1));
-        tried(18, "classes", x -> x.classes(-1) + x.classes(0) + x.classes(1));
-        tried(19, "tell", x -> x.tell(false) + x.tell(true));
-        tried(20, "reign", DoubleChain::reign);
-        tried(21, "shownAll", DoubleChain::shownAll);
-        tried(22, "apart", x -> x.apart(0, 1));
-        tried(23, "safe", x -> x.safe(60, 5));
-        tried(25, "fits", DoubleChain::fits);
-        tried(26, "lookOn", DoubleChain::lookOn);
-        tried(29, "judge", DoubleChain::judge);
-    }
-
-    private static void tried(int promise, String name, ToIntFunction<DoubleChain> calling) {
-        T.promise(promise);
-        DoubleChain x = make.get();
-        calling.applyAsInt(x);
-        T.same("what " + name + " leaves, " + state, View.whole(x), untouched);
     }
 }
