@@ -870,7 +870,7 @@ public final class DoubleChain {
         int count = 0;
 
         Past() {
-            for (int i = 0; i < UNDONE_KEPT; i++) {
+            for (int i = 0; i < ring.length; i++) {
                 ring[i] = new Chain();
             }
         }
@@ -912,25 +912,26 @@ public final class DoubleChain {
         boolean kept = false;
     }
 
-    /** On which days he was watched, and whether he went out. */
+    /** On which days he was watched, and at which of the entries he went out. */
     private static final class Watched {
         final int[] days = new int[WATCHED_KEPT];
-        final boolean[] wentOut = new boolean[WATCHED_KEPT];
+        int outs = 0;
         int count = 0;
 
         boolean add(int d, boolean out) {
-            if (count < 0 || count >= WATCHED_KEPT) {
+            if (count >= WATCHED_KEPT) {
                 return false;
             }
-            days[count] = d;
-            wentOut[count] = out;
+            put(days, count, d);
+            // The bit may still be set by an entry that was torn.
+            outs = out ? outs | (1 << count) : outs & ~(1 << count);
             count++;
             return true;
         }
 
         boolean isFitting(Court court, int p) {
-            for (int i = 0; i < count && i < WATCHED_KEPT; i++) {
-                if (court.goesOutOn(p, days[i]) != wentOut[i]) {
+            for (int i = 0; i < count; i++) {
+                if (court.goesOutOn(p, at(days, i)) != holds(outs, i)) {
                     return false;
                 }
             }
